@@ -1485,7 +1485,7 @@ public final class SkinLoads {
             return held;
         }
 
-        private static boolean isRowAtRim(int line) {
+        private static boolean isAtRim(int line) {
             return line == 0 || line == SIDE - 1;
         }
 
@@ -1494,7 +1494,7 @@ public final class SkinLoads {
             if (kinds[place] == PIECE) {
                 return place / SIDE == SIDE - 1;
             }
-            return isRowAtRim(place / SIDE) || isRowAtRim(place % SIDE);
+            return isAtRim(place / SIDE) || isAtRim(place % SIDE);
         }
 
         private static int neighbour(int place, int way) {

@@ -218,6 +218,12 @@ public final class NetTest {
         y.bar(0, 0, 1, 1);
         due.is("move(1, 0)", y.move(1, 0), 0);
         due.is("move(1, 1)", y.move(1, 1), 1);
+        SkinLoads upright = new SkinLoads();
+        upright.joint(0, 0, true);
+        upright.joint(0, 3, false);
+        upright.bar(0, 0, 1, 1);
+        due.is("move(1, 0)", upright.move(1, 0), 1);
+        due.is("move(1, 1)", upright.move(1, 1), 0);
         y.joint(5, 5, true);
         y.bar(0, 1, 2, 1);
         due.is("MOVES", y.net(1), 0);
@@ -308,5 +314,10 @@ public final class NetTest {
         }
         x.load(0, 2, 0, -12);
         due.is("at the strength none gives", x.order(1, 0), 0);
+        for (int weak = 0; weak < 2; weak++) {
+            SkinLoads y = gable(weak == 0 ? 1 : 9, weak == 0 ? 9 : 1);
+            y.load(0, 2, 0, -8);
+            due.is("one bar alone gives", y.order(1, 0), SkinLoads.NONE);
+        }
     }
 }

@@ -23,6 +23,9 @@ public final class RibTest {
         due.is("spring(5, 21)", x.spring(5, 21), SkinLoads.UNKNOWN);
         due.is("spring(4, 0)", x.spring(4, 0), SkinLoads.OUTSIDE);
         due.is("spring(4, 21)", x.spring(4, 21), SkinLoads.OUTSIDE);
+        due.is("rib(2)", x.rib(2), 1);
+        due.is("spring(2, 1)", x.spring(2, 1), SkinLoads.UNKNOWN);
+        due.is("rib(5)", x.rib(5), 4);
         due.is("spring(4, 20)", x.spring(4, 20), 1);
         due.is("spring(4, 1)", x.spring(4, 1), 20);
         due.is("poly(-1)", x.poly(-1), Due.LOST);

@@ -25,6 +25,10 @@ public final class SightsTest {
         due.is("quarrel(0, 0) of none", x.quarrel(0, 0), SkinLoads.UNKNOWN);
         due.is("span(0, 0, 0) of none", x.span(0, 0, 0), LOST);
         due.is("span(1, 0, 0) of none", x.span(1, 0, 0), LOST);
+        SkinLoads y = new SkinLoads();
+        due.is("sight(1, 99999, 99999)", y.sight(1, 99999, 99999), 0);
+        due.is("sight(1, 0, 0)", y.sight(1, 0, 0), 1);
+        due.is("quarrel(0, 1)", y.quarrel(0, 1), 1);
         due.is("sight(99, 0, 99999)", x.sight(99, 0, 99999), 0);
         due.is("quarrel(0, 1)", x.quarrel(0, 1), SkinLoads.UNKNOWN);
         due.is("quarrel(-1, 0)", x.quarrel(-1, 0), SkinLoads.UNKNOWN);

@@ -7,6 +7,7 @@ public final class SkinTest {
         lakesAndCorners();
         tornBySides();
         cuts();
+        allWays();
         due.end();
     }
 
@@ -67,6 +68,26 @@ public final class SkinTest {
             }
         }
         are(z, "nothing there", 0, 0, 0, 1, 0);
+    }
+
+    private static SkinLoads without(int... places) {
+        SkinLoads x = new SkinLoads();
+        for (int place : places) {
+            x.hole(place / 10, place % 10, true);
+        }
+        return x;
+    }
+
+    /** Lots that hang together only over one of the eight ways, as they are gone through. */
+    private static void allWays() {
+        are(without(18, 28, 37, 26), "up over a corner to the left", 96, 0, 1, 0, 7);
+        are(without(11, 21, 32, 23), "up over a corner to the right", 96, 0, 1, 0, 7);
+        are(without(11, 21, 31, 32, 33, 23, 13), "up over a side", 93, 0, 1, 0, 7);
+        are(without(45, 54, 56, 65), "one piece by corners alone", 96, 1, 1, 0, 7);
+        are(without(50, 1, 2, 3, 4, 5, 6, 7, 8, 9), "nothing hangs together beyond the rim", 90, 0, 0, 0, 1);
+        are(without(90, 81, 71, 61, 51, 42, 43, 44, 45, 46, 47, 48, 49), "up a narrow way", 87, 1, 0, 1, 0);
+        are(without(0, 11, 21, 31, 41, 52, 53, 54, 55, 56, 57, 58, 59), "down a narrow way", 87, 1, 0, 1, 0);
+        are(without(0, 1, 2, 3, 4, 5, 6, 17, 26, 25, 24, 33, 44, 45, 46, 47, 48, 49), "back and on", 82, 1, 0, 1, 0);
     }
 
     private static void cuts() {
