@@ -55,6 +55,13 @@ final class Edges {
         changesNothingBut(making, call, want, making.make().fault());
     }
 
+    /** Calls that all answer the same and change nothing. */
+    void changeNothing(Making making, long want, String... calls) {
+        for (String call : calls) {
+            changesNothing(making, call, want);
+        }
+    }
+
     /** A call that changes nothing but fault(): what fault() is, and that all else is as it was. */
     void changesNothingBut(Making making, String call, long want, int fault) {
         for (int part = 0; part < View.PARTS; part++) {

@@ -6,6 +6,7 @@ public final class EdgesTest {
         new DomeEdges(due).all();
         new RibEdges(due).all();
         new NetEdges(due).all();
+        new NetCallsEdges(due).all();
         new SkinEdges(due).all();
         new SightsEdges(due).all();
         new SheetsEdges(due).all();

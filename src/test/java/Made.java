@@ -84,15 +84,4 @@ final class Made {
         x.put(2, 0, 70000);
         x.put(2, 1, -70000);
     }
-
-    /** Two HELD JOINTS, a FREE one (2) above their middle, two BARS: each carries half of a weight. */
-    static SkinLoads gable(int left, int right) {
-        SkinLoads x = new SkinLoads();
-        x.joint(0, 0, true);
-        x.joint(4, 0, true);
-        x.joint(2, 2, false);
-        x.bar(0, 0, 2, left);
-        x.bar(0, 2, 1, right);
-        return x;
-    }
 }

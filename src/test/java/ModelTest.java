@@ -37,7 +37,7 @@ public final class ModelTest {
     }
 
     public static void main(String[] args) throws Exception {
-        int runs = args.length > 0 ? Integer.parseInt(args[0]) : 25;
+        int runs = args.length > 0 ? Integer.parseInt(args[0]) : 15;
         for (int seed = 0; seed < runs; seed++) {
             new ModelTest(seed).domes();
             new ModelTest(seed).mixed(RIB);

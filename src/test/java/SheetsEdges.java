@@ -64,12 +64,6 @@ final class SheetsEdges {
         return trace.intValue();
     }
 
-    private void isRefused(Edges.Making making, int want, String... calls) {
-        for (String call : calls) {
-            due.changesNothing(making, call, want);
-        }
-    }
-
     /** Refused, or come to a FAULT, by a call that names FAULTS: fault() tells which, or 0. */
     private void isFault(Edges.Making making, long want, int fault, String... calls) {
         for (String call : calls) {
@@ -232,13 +226,13 @@ final class SheetsEdges {
         y.sheet(3, 0, 0);
         due.is(y, "lose(3)", 1);
         due.is(y, "lose(3)", 0);
-        isRefused(Made::full, 0, "lose(3)");
-        isRefused(Made::fresh, 0, "lose(0)", "lose(3)");
+        due.changeNothing(Made::full, 0, "lose(3)");
+        due.changeNothing(Made::fresh, 0, "lose(0)", "lose(3)");
     }
 
     private void loseRefused() {
         due.says(32, "UNKNOWN.");
-        isRefused(Made::full, Edges.UNKNOWN, "lose(-1)", "lose(4)", "lose(2147483647)");
+        due.changeNothing(Made::full, Edges.UNKNOWN, "lose(-1)", "lose(4)", "lose(2147483647)");
     }
 
     private void putAnswers() {
@@ -319,9 +313,9 @@ final class SheetsEdges {
 
     private void tellRefused() {
         due.says(35, "UNKNOWN.");
-        isRefused(Made::full, Edges.UNKNOWN, "tell(-1)", "tell(16)");
-        isRefused(Made::fresh, Edges.UNKNOWN, "tell(0)");
-        isRefused(SheetsEdges::threeBars, Edges.UNKNOWN, "tell(3)");
+        due.changeNothing(Made::full, Edges.UNKNOWN, "tell(-1)", "tell(16)");
+        due.changeNothing(Made::fresh, Edges.UNKNOWN, "tell(0)");
+        due.changeNothing(SheetsEdges::threeBars, Edges.UNKNOWN, "tell(3)");
     }
 
     private void signAnswers() {
@@ -338,9 +332,9 @@ final class SheetsEdges {
 
     private void signRefused() {
         due.says(36, "UNKNOWN.");
-        isRefused(Made::full, Edges.UNKNOWN, "sign(-1)", "sign(16)");
-        isRefused(Made::fresh, Edges.UNKNOWN, "sign(0)");
-        isRefused(SheetsEdges::threeBars, Edges.UNKNOWN, "sign(3)");
+        due.changeNothing(Made::full, Edges.UNKNOWN, "sign(-1)", "sign(16)");
+        due.changeNothing(Made::fresh, Edges.UNKNOWN, "sign(0)");
+        due.changeNothing(SheetsEdges::threeBars, Edges.UNKNOWN, "sign(3)");
     }
 
     private void asAnswers() {
@@ -358,8 +352,8 @@ final class SheetsEdges {
 
     private void traceAnswers() {
         due.says(38, "TRACE.");
-        isRefused(Made::fresh, 0, "trace()");
-        isRefused(Made::full, traceOf(3, 2, 1, 1), "trace()");
+        due.changeNothing(Made::fresh, 0, "trace()");
+        due.changeNothing(Made::full, traceOf(3, 2, 1, 1), "trace()");
         SkinLoads x = threeBars();
         for (int k = 0; k < 30; k++) {
             x.tell(2);
@@ -441,7 +435,7 @@ final class SheetsEdges {
 
     private void manyRefused() {
         due.says(40, "OUTSIDE.");
-        isRefused(Made::full, Edges.OUTSIDE, "many(-1)", "many(7)");
-        isRefused(Made::fresh, Edges.OUTSIDE, "many(-1)", "many(7)");
+        due.changeNothing(Made::full, Edges.OUTSIDE, "many(-1)", "many(7)");
+        due.changeNothing(Made::fresh, Edges.OUTSIDE, "many(-1)", "many(7)");
     }
 }

@@ -22,7 +22,7 @@ final class TermsEdges {
     }
 
     private static SkinLoads loose() {
-        SkinLoads x = Made.gable(1, 1);
+        SkinLoads x = Nets.gable(1, 1);
         x.bar(0, 0, 1, 1);
         return x;
     }
@@ -149,14 +149,14 @@ final class TermsEdges {
         due.holds("NONE", SkinLoads.NONE == -9);
         due.is(new SkinLoads(), "limit(0, 2)", -9);
         due.is(Made.full(), "thick(1, 0)", -9);
-        SkinLoads x = Made.gable(1, 1);
+        SkinLoads x = Nets.gable(1, 1);
         x.load(0, 2, 0, 8);
         due.is(x, "order(1, 0)", -9);
     }
 
     private void shares() {
         due.says("Terms", "Shares are told as upper and lower number (above 0) in least terms.");
-        SkinLoads x = Made.gable(6, 6);
+        SkinLoads x = Nets.gable(6, 6);
         x.load(0, 2, 0, -6);
         x.load(1, 2, 0, 6);
         due.isShare(x, "push(0, 0)", -3, 2);
