@@ -41,8 +41,8 @@ public final class RibTest {
 
     /** One joint: 4 k less 2 p, so the fold is at 2 k. */
     private static void twoLinks() {
-        SkinLoads x = new SkinLoads();
         for (int k = 1; k <= 20; k++) {
+            SkinLoads x = new SkinLoads();
             x.spring(1, k);
             due.is("poly(0)", x.poly(0), 4L * k);
             due.is("poly(1)", x.poly(1), -2);
